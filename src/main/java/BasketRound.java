@@ -250,13 +250,13 @@ public final class BasketRound {
         }
         int n = shop.orders;
         int many = arrangements(n);
-        int least = Integer.MAX_VALUE;
+        int least = 0;
         int which = 0;
         takeRoundsFromFirst();
         for (int r = 0; r < many; r++) {
             trip.ride();
             trip.finish();
-            if (trip.home < least) {
+            if (r == 0 || trip.home < least) {
                 least = trip.home;
                 which = numberOf(trip.calls, n);
             }
@@ -426,7 +426,7 @@ public final class BasketRound {
             return STATE;
         }
         int most = 0;
-        int least = Integer.MAX_VALUE;
+        int least = 0;
         int s = seed;
         trip.take(allBits(), shop.start);
         trip.stow();
@@ -436,7 +436,7 @@ public final class BasketRound {
             trip.ride();
             trip.finish();
             most = Math.max(most, trip.gained);
-            least = Math.min(least, trip.home);
+            least = i == 0 ? trip.home : Math.min(least, trip.home);
         }
         return what == 0 ? most : least;
     }
