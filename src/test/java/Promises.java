@@ -1,4 +1,7 @@
-/** Promise by promise, with answers that were reckoned by hand from the document. */
+/**
+ * Promise by promise, with answers reckoned by hand from the document; but those of best, packing, soonest and
+ * two(1, ..) for SHOP are the shared test's.
+ */
 public final class Promises {
     private static final String SHOP = "road 2;up 3;down 4;order eggs 2 3 5 20;order paraffin 3 6 4 30;"
         + "order ice 1 2 9 25;order soda 2 8 1 9;push 12;start 3;pack 1 0;round 2 3;";
