@@ -26,6 +26,7 @@ public final class CallBoundaries {
         digging();
         spoiling();
         inTime();
+        askedFirst();
         nobodyToCallAt();
         best();
         packingAndSoonest();
@@ -267,7 +268,11 @@ public final class CallBoundaries {
         says("Terms 2: back to THE SHOP with nothing in the basket: never more than PUSH");
         x = told("down 5;down 6;order plain 2 9 1 99;push 0;");
         due("time(0)", x.time(0), 12);
-        due("back()", x.back(), 23);
+        due("back() by PUSH 0", x.back(), 23);
+        x.set(0, 10);
+        due("back() by PUSH 10", x.back(), 23);
+        x.set(0, 60);
+        due("back() by PUSH 60", x.back(), 23);
         says("Terms 2: uphill towards THE SHOP, with what is left");
         x = told("down 5;down 6;order plain 2 9 1 99;order plain 1 4 1 99;push 3;");
         due("time(1)", x.time(1), 12 + 12 + 1);
@@ -345,6 +350,17 @@ public final class CallBoundaries {
             x.turn(0, 0);
             due("at 21, not ice", x.spoilt(), 0);
         }
+        says("Promise 20: ORDERS that are SPOILT (bits): all of them, each in its own way; none");
+        x = told("road 9;road 9;order paraffin 2 6 1 99;order plain 2 1 1 99;order eggs 2 1 1 99;order ice 2 1 1 99;");
+        due("time(3)", x.time(3), 22);
+        due("spoilt()", x.spoilt(), 2 | 4 | 8);
+        x.first(3);
+        due("spoilt(), ice first, dug out at 22", x.spoilt(), 2 | 4 | 8);
+        x.top(3);
+        due("spoilt(), ice first, on top at 19", x.spoilt(), 2 | 4);
+        x.turn(0, 3);
+        x.turn(2, 0);
+        due("spoilt(), none", x.spoilt(), 0);
         paraffin();
     }
 
@@ -404,6 +420,46 @@ public final class CallBoundaries {
         x.ask(1, 4, 2);
         due("late()", x.late(), 1 | 2);
         due("pennies()", x.pennies(), 4 + 8);
+    }
+
+    private static void askedFirst() {
+        says("Promises 18 to 36: what is asked first of all of a shop, or behind what leaves another round");
+        // 1 is called at first, and 0 lies on it: 1 at 2 + 1 + 1 = 4, 0 at 5; he is back at 7.
+        String shop = "road 2;order paraffin 1 1 4 9;order eggs 1 1 5 9;round 1;";
+        String[] names = {"time", "back", "spoilt", "late", "pennies", "dug", "gone", "doors", "strength", "latest", "packing",
+            "soonest", "mean", "luck", "fits", "drift"};
+        int[] want = {5, 7, 2, 0, 4, 1, 4, 2, 0, 4, 6, 6, 4, 0, 2, 6};
+        for (int i = 0; i < names.length; i++) {
+            due(names[i] + ", first", asked(told(shop), i), want[i]);
+            BasketRound x = told(shop);
+            x.two(1, 0);
+            due(names[i] + " behind two()", asked(x, i), want[i]);
+            x.best(0);
+            due(names[i] + " behind best()", asked(x, i), want[i]);
+            x.leave(0);
+            due(names[i] + " behind leave()", asked(x, i), want[i]);
+        }
+    }
+
+    private static long asked(BasketRound x, int i) {
+        switch (i) {
+            case 0: return x.time(0);
+            case 1: return x.back();
+            case 2: return x.spoilt();
+            case 3: return x.late();
+            case 4: return x.pennies();
+            case 5: return x.spent(0);
+            case 6: return x.spent(1);
+            case 7: return x.spent(2);
+            case 8: return x.strength();
+            case 9: return x.latest();
+            case 10: return x.packing(1);
+            case 11: return x.soonest(0);
+            case 12: return x.mean(0, 0);
+            case 13: return x.luck(0, 5, 0);
+            case 14: return x.fits(0);
+            default: return x.drift(0, 1, 1);
+        }
     }
 
     private static void nobodyToCallAt() {
@@ -511,10 +567,10 @@ public final class CallBoundaries {
         due("soonest(1)", x.soonest(1), base5(2, 1, 0));
         due("THE ROUND is as it was", x.rule(5), base5(0, 1, 2));
         says("Promise 26: of several the first by numbers");
-        // HOUSES 1 and 2 on a flat road: 0 for 2, then 1 for 1, or the other way; digging 1 is dearer by one.
-        x = told("road 1;road 1;order plain 2 1 0 0;order plain 1 1 0 0;");
-        due("soonest(0)", x.soonest(0), 6);
-        due("soonest(1)", x.soonest(1), base5(0, 1));
+        // By order he goes 1 + 1 + 1 + 1 + 2; 0 2 1 and 1 0 2 are 2 shorter, and he digs 1.
+        x = told("road 1;road 1;order plain 2 1 0 0;order plain 1 1 0 0;order plain 2 1 0 0;round 2 1 0;");
+        due("soonest(0)", x.soonest(0), 4 + 1 + 3);
+        due("soonest(1)", x.soonest(1), base5(0, 2, 1));
     }
 
     private static void twoRounds() {
@@ -593,6 +649,9 @@ public final class CallBoundaries {
         x.ask(4, 4, 14);
         x.weigh(0, 8);
         due("strength()", x.strength(), 44);
+        says("Promise 29: PACKED as it is: he digs a minute for what is called at first");
+        due("strength(), DUE then", told("up 2;order plain 1 1 1 9;order plain 1 1 1 4;round 1;").strength(), 2);
+        due("strength(), a minute ahead", told("up 2;order plain 1 1 1 9;order plain 1 1 1 3;round 1;").strength(), NONE);
         says("Promise 29: NONE though PUSH is 60");
         x = told("road 9;order plain 1 1 0 9;push 60;");
         due("strength()", x.strength(), NONE);
@@ -731,6 +790,14 @@ public final class CallBoundaries {
         due("the 6th", x.see(1, 1), 6);
         due("the 7th", x.see(1, 1), FULL);
         due("count(0)", x.count(0), 6);
+        says("Promise 34: FULL changes nothing: the six are as they were");
+        BasketRound y = five();
+        for (int i = 0; i < 6; i++) {
+            due("see(0, 2)", y.see(0, 2), i + 1);
+        }
+        due("see(0, 3)", y.see(0, 3), FULL);
+        due("fits(0): ORDER 0 first", y.fits(0), 24);
+        due("fits(2): ORDER 0 first", y.fits(2), 1);
         says("Terms: the first that fits: BAD ahead of FULL");
         due("see(5, 1)", x.see(5, 1), BAD);
         due("see(-1, 1)", x.see(-1, 1), BAD);
@@ -1097,6 +1164,7 @@ public final class CallBoundaries {
         for (int i : new int[] {19, 18, 1, 0}) {
             x.lay(0, 2 * i + 1, 5);
             due("its second is none, " + i, x.read(0, 0, 0, 20), -20 - i);
+            due("rule(5)", x.rule(5), base5(1, 0, 2, 3, 4));
             x.lay(0, 2 * i + 1, 1);
             x.lay(0, 2 * i, -1);
             due("its first is none, " + i, x.read(0, 0, 0, 20), -20 - i);

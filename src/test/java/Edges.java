@@ -21,7 +21,8 @@ public final class Edges {
         "up 1;order ice 1 9 9 9;order eggs 1 9 9 9;order plain 1 1 0 0;order soda 1 9 9 9;order ice 1 9 9 9;round 4 3;"};
     private static final String[] FAULTY = {"$", "up 100;", "zz", "up", "up 0;", "push 1;push", "up 1;order ice 1 1 1 1;pack 0 0",
         "up 1;up 1;up 1;up 1;up 1;up 1;up", "order ice 1 1 1 1;", "up 1;round 0;", "pack 4 3 2 1 0;push 60;start 60;$"};
-    private static final int MOST_IN_ONE = 20;
+    // By the count of a call's numbers; where there are several, an odd count, so that two that undo one another show.
+    private static final int[] IN_ONE = {1, 1, 1, 7, 19};
     private static final int FEW = 1, ALL = 2;
 
     private static int wrong = 0;
@@ -71,7 +72,9 @@ public final class Edges {
             x.top(1);
             x.sheet(2, 1, 40);
             x.sheet(3, 2, 2);
-            for (int i = 0; i < 5; i++) {
+            x.lay(0, 2, 9);
+            x.forget(0);
+            for (int i = 0; i < 6; i++) {
                 x.see(i % 2, x.time(i % 2));
             }
             feedAll(x, ";" + " ".repeat(155));
@@ -150,7 +153,7 @@ public final class Edges {
             if (changesNothing(text, filled, m, numbers)) {
                 together.add(numbers);
             }
-            if (together.size() == MOST_IN_ONE || i == all - 1) {
+            if (together.size() == IN_ONE[many] || i == all - 1) {
                 BasketRound x = made(text, filled);
                 int fault = x.fault();
                 for (Object[] some : together) {

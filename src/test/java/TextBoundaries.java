@@ -29,6 +29,7 @@ public final class TextBoundaries {
         housesAndOrders();
         orderFigures();
         kinds();
+        letters();
         pushAndStart();
         rows();
         notHere();
@@ -72,6 +73,7 @@ public final class TextBoundaries {
     private static void refused(String text, int fault, int place) {
         BasketRound x = taken(STAYS, 8);
         x.see(0, 20);
+        x.keep(0);
         x.keep(1);
         feedAll(x, text);
         due("text() of [" + text + "]", x.text(), -10 - place);
@@ -79,7 +81,8 @@ public final class TextBoundaries {
         due("count(2) behind [" + text + "]", x.count(2), 0);
         stands(x);
         due("count(0) behind [" + text + "]", x.count(0), 1);
-        due("count(1) behind [" + text + "]", x.count(1), 1);
+        due("count(1) behind [" + text + "]", x.count(1), 2);
+        due("undo(0) behind [" + text + "]", x.undo(0), 8);
         due("undo(1) behind [" + text + "]", x.undo(1), 8);
     }
 
@@ -448,6 +451,26 @@ public final class TextBoundaries {
             refused(name + " 1;", 2, 0);
             refused("up 1; " + name + " 1;", 2, 6);
         }
+    }
+
+    private static void letters() {
+        for (String name : new String[] {"road", "up", "down", "order", "push", "start", "pack", "round"}) {
+            says("FAULT 2: a NAME that begins no line: " + name + " with another letter");
+            for (int i = 0; i < name.length(); i++) {
+                refused(withAnother(name, i) + " 1;", 2, 0);
+            }
+        }
+        for (String kind : KINDS) {
+            says("FAULT 2: a NAME that is no K: " + kind + " with another letter");
+            for (int i = 0; i < kind.length(); i++) {
+                refused("up 1;order " + withAnother(kind, i) + " 1 1 1 1;", 2, 11);
+            }
+        }
+    }
+
+    private static String withAnother(String name, int i) {
+        char other = name.charAt(i) == 'z' ? 'a' : (char) (name.charAt(i) + 1);
+        return name.substring(0, i) + other + name.substring(i + 1);
     }
 
     private static void pushAndStart() {
