@@ -19,6 +19,7 @@ public final class AgainstModel {
     public static void main(String[] args) {
         for (int seed = 0; seed < 1500 && wrong < 20; seed++) {
             new Run(seed).go();
+            new Run(-1 - seed).goTexts();
         }
         if (wrong > 0) {
             System.exit(1);
@@ -776,15 +777,24 @@ public final class AgainstModel {
         }
 
         void go() {
+            feedText(fullText());
+            for (int k = upTo(4) - 1; k >= 0; k--) {
+                one("sheet", k, upTo(2), upTo(16));
+            }
             for (int i = 0; calls < 512; i++) {
-                if (i % 40 == 0 || random.nextInt(60) == 0) {
-                    feedText();
+                if (random.nextInt(120) == 0 || m.w.orders.isEmpty() && random.nextInt(12) == 0) {
+                    feedText(random.nextInt(3) == 0 ? someText() : fullText());
                 }
                 String call = CALLS[random.nextInt(CALLS.length)];
-                if (call.equals("best") && random.nextInt(4) != 0 || call.equals("text") && random.nextInt(3) != 0) {
+                // A text of what lies on the tape by chance mostly tells of no orders, and then little is left to ask.
+                if (call.equals("text") && random.nextInt(20) != 0) {
                     continue;
                 }
-                one(call, numbers(call));
+                // A sheet and what is seen fill only if they are met several times.
+                int times = call.equals("lay") ? 12 : call.equals("see") ? 3 : 1;
+                for (int t = upTo(times - 1); t >= 0; t--) {
+                    one(call, numbers(call));
+                }
                 if (call.equals("read")) {
                     one("torn");
                     one("rule", 5);
@@ -792,9 +802,20 @@ public final class AgainstModel {
             }
         }
 
-        void feedText() {
+        /** Texts alone, most of them with faults. */
+        void goTexts() {
+            for (int i = 0; calls + 170 < 512; i++) {
+                feedText(faultyText());
+                one("count", 2);
+                for (int what = 0; what <= 6; what++) {
+                    one("rule", what);
+                }
+            }
+        }
+
+        void feedText(String text) {
             one("end", 0);
-            for (char c : someText().toCharArray()) {
+            for (char c : text.toCharArray()) {
                 one("feed", c);
             }
             one("text");
@@ -805,18 +826,60 @@ public final class AgainstModel {
             return random.nextInt(n + 1);
         }
 
-        String someText() {
-            StringBuilder s = new StringBuilder();
-            int houses = upTo(5) + upTo(1);
-            int orders = upTo(4) + upTo(1);
-            for (int h = 0; h < houses; h++) {
-                s.append(new String[] {"road ", "up ", "down "}[upTo(2)]).append(1 + upTo(random.nextInt(8) + 1) % 9).append(';');
+        /** A text without a fault, mostly of many orders. */
+        String fullText() {
+            String text = "";
+            for (int i = 0; i < 100 && (text.isEmpty() || text.length() > 160); i++) {
+                int houses = 1 + upTo(5);
+                int orders = Math.max(upTo(5), upTo(5));
+                StringBuilder s = new StringBuilder();
+                addHouses(s, houses);
+                addOrders(s, orders, houses);
+                addRow(s, "pack", orders);
+                addRow(s, "round", orders);
+                s.append(random.nextInt(3) == 0 ? "" : "push " + upTo(30) + ";");
+                s.append(random.nextInt(3) != 0 ? "" : "start " + upTo(random.nextBoolean() ? 9 : 60) + ";");
+                text = s.toString();
             }
-            for (int o = 0; o < orders && houses > 0; o++) {
+            return text;
+        }
+
+        void addHouses(StringBuilder s, int houses) {
+            for (int h = 0; h < houses; h++) {
+                s.append(new String[] {"road ", "up ", "down "}[upTo(2)]).append(1 + upTo(random.nextInt(9))).append(';');
+            }
+        }
+
+        void addOrders(StringBuilder s, int orders, int houses) {
+            for (int o = 0; o < orders; o++) {
                 s.append("order ").append(new String[] {"plain", "eggs", "ice", "soda", "paraffin"}[upTo(4)]).append(' ');
                 s.append(1 + upTo(houses - 1)).append(' ').append(1 + upTo(8)).append(' ').append(upTo(9)).append(' ');
-                s.append(random.nextInt(3) == 0 ? upTo(99) : upTo(45)).append(';');
+                s.append(random.nextInt(3) == 0 ? upTo(99) : upTo(60)).append(';');
             }
+        }
+
+        void addRow(StringBuilder s, String name, int orders) {
+            if (random.nextInt(3) == 0) {
+                return;
+            }
+            List<Integer> row = new ArrayList<>();
+            for (int o = 0; o < orders; o++) {
+                row.add(upTo(row.size()), o);
+            }
+            s.append(name);
+            for (int o : row.subList(0, upTo(orders))) {
+                s.append(' ').append(o);
+            }
+            s.append(';');
+        }
+
+        /** A text that may well have a fault. */
+        String someText() {
+            StringBuilder s = new StringBuilder();
+            int houses = upTo(6) + upTo(1);
+            int orders = upTo(5) + upTo(1);
+            addHouses(s, houses);
+            addOrders(s, orders, Math.max(houses, 1));
             String[] more = {"push ", "start ", "pack ", "round "};
             for (int i = 0; i < 4; i++) {
                 if (random.nextInt(3) == 0) {
@@ -828,6 +891,17 @@ public final class AgainstModel {
                 spoil(s);
             }
             return s.length() > 160 ? s.substring(0, 160) : s.toString();
+        }
+
+        String faultyText() {
+            StringBuilder s = new StringBuilder(random.nextBoolean() ? fullText() : someText());
+            for (int i = upTo(3); i > 0 && s.length() > 0; i--) {
+                spoil(s);
+            }
+            // Short ones, so that a run has many of them.
+            int from = random.nextBoolean() ? 0 : s.indexOf(";", random.nextInt(s.length() + 1)) + 1;
+            String text = s.substring(from);
+            return text.length() > 160 ? text.substring(0, 160) : text;
         }
 
         void spoil(StringBuilder s) {
@@ -850,19 +924,24 @@ public final class AgainstModel {
             }
         }
 
+        /** An order that there is, or one close by. */
+        int someOrder() {
+            return some(random.nextInt(6) == 0 ? 4 : Math.max(m.w.orders.size() - 1, 0));
+        }
+
         int[] numbers(String call) {
             switch (call) {
                 case "feed": return new int[] {some(127)};
                 case "end": return new int[] {some(m.tape.length())};
                 case "rule": return new int[] {some(6)};
                 case "house": return new int[] {some(6), some(1)};
-                case "order": return new int[] {some(4), some(6)};
+                case "order": return new int[] {someOrder(), some(6)};
                 case "set": return new int[] {some(1), some(60)};
-                case "pack": case "swap": return new int[] {some(4), some(4)};
-                case "top": case "first": case "time": return new int[] {some(4)};
-                case "ask": return new int[] {some(4), 3 + some(1), random.nextBoolean() ? some(9) : some(99)};
-                case "turn": return new int[] {some(4), some(4)};
-                case "weigh": return new int[] {some(4), some(9)};
+                case "pack": case "swap": return new int[] {someOrder(), someOrder()};
+                case "top": case "first": case "time": return new int[] {someOrder()};
+                case "ask": return new int[] {someOrder(), 3 + some(1), random.nextBoolean() ? some(9) : some(99)};
+                case "turn": return new int[] {someOrder(), some(4)};
+                case "weigh": return new int[] {someOrder(), some(9)};
                 case "way": return new int[] {some(6), some(6), some(60)};
                 case "best": return new int[] {some(3)};
                 case "spent": case "packing": case "split": case "fits": return new int[] {some(2)};
@@ -871,14 +950,20 @@ public final class AgainstModel {
                 case "mean": return new int[] {some(10), some(1)};
                 case "luck": return new int[] {some(10), random.nextBoolean() ? some(20) : some(45), some(1)};
                 case "see": {
-                    int o = some(4);
-                    return new int[] {o, m.is(o) && random.nextInt(3) != 0 ? m.now().time[o] : some(199)};
+                    int o = someOrder();
+                    return new int[] {o, m.is(o) && random.nextInt(9) != 0 ? m.now().time[o] : some(199)};
                 }
                 case "forget": return new int[] {some(Math.max(m.seen.size(), 2))};
                 case "drift": return new int[] {random.nextInt(), some(60), some(1)};
-                case "sheet": return new int[] {some(3), some(2), some(40)};
-                case "lay": return new int[] {some(3), some(20), random.nextInt(3) == 0 ? random.nextInt() : some(4)};
-                case "read": return new int[] {some(3), some(2), some(20), random.nextBoolean() ? some(4) : some(20)};
+                case "sheet": return new int[] {some(3), some(2), random.nextBoolean() ? some(8) : some(40)};
+                case "lay": return new int[] {some(3), some(12), random.nextInt(9) == 0 ? random.nextInt() : someOrder()};
+                case "read": {
+                    int k = some(3);
+                    Object row = k >= 0 && k < 4 ? m.sheets[k] : null;
+                    int lane = row instanceof byte[] ? 0 : row instanceof short[] ? 1 : 2;
+                    lane = random.nextInt(5) == 0 ? some(2) : lane;
+                    return new int[] {k, lane, some(12), random.nextBoolean() ? some(4) : some(20)};
+                }
                 case "count": return new int[] {some(5)};
                 default: return new int[0];
             }
